@@ -13,18 +13,21 @@ public final class FaceTest {
         int.class, long.class, short.class, byte.class, char.class, boolean.class,
         int[].class, long[].class, short[].class, byte[].class, char[].class, boolean[].class);
 
-    public static void main(String[] args) throws Exception {
-        Check check = new Check("FaceTest");
-        Class<RasterRules> type = RasterRules.class;
+    public static void main(String[] args) {
+        Check check = new Check("Face");
+        check.sentence("public final class RasterRules", it -> type(it, RasterRules.class));
+        check.sentence("The public face: the methods", it -> methods(it, RasterRules.class));
+        check.sentence("public static final int BAD = -1", it -> fields(it, RasterRules.class));
+        check.end();
+    }
+
+    private static void type(Check check, Class<?> type) {
         check.due("public final", Modifier.isPublic(type.getModifiers()) && Modifier.isFinal(type.getModifiers()), true);
         check.due("no package", type.getPackageName().isEmpty(), true);
         check.due("no nested class", type.getDeclaredClasses().length, 0);
         check.due("one constructor", type.getDeclaredConstructors().length, 1);
-        check.due("public constructor", Modifier.isPublic(type.getConstructor().getModifiers()), true);
-        methods(check, type);
-        fields(check, type);
-        check.due("BAD", RasterRules.BAD, -1);
-        check.end();
+        check.due("public constructor", Modifier.isPublic(type.getDeclaredConstructors()[0].getModifiers()), true);
+        check.due("constructor without parameters", type.getDeclaredConstructors()[0].getParameterCount(), 0);
     }
 
     private static void methods(Check check, Class<?> type) {
@@ -55,6 +58,7 @@ public final class FaceTest {
     }
 
     private static void fields(Check check, Class<?> type) {
+        check.due("BAD", RasterRules.BAD, -1);
         for (Field field : type.getDeclaredFields()) {
             int modifiers = field.getModifiers();
             boolean bad = field.getName().equals("BAD");

@@ -1,23 +1,40 @@
-/** Promise 1: a new object has all pixels 0 and the pen 0. */
+/** Promise 1: a new object. */
 public final class Promise01NewObjectTest {
     public static void main(String[] args) {
         Check check = new Check("Promise01");
-        RasterRules raster = new RasterRules();
-        check.picture("new", raster);
-        for (int y = 0; y < 24; y++) {
-            for (int x = 0; x < 24; x++) {
-                check.due("get(" + Check.at(x, y) + ")", raster.get(Check.at(x, y)), 0);
-            }
-        }
-        check.due("draws with pen 0", raster.disc(0, 0), 1);
-        check.due("draws with pen 0 again", raster.disc(0, 0), 0);
-        check.due("pixel made 1", raster.get(0), 1);
-
-        RasterRules other = new RasterRules();
-        check.due("objects share no pixels", other.count(), 0);
-        raster.pen(2);
-        check.due("objects share no pen", other.disc(5, 0) + other.disc(5, 0), 1);
-        check.due("the first is as it was", raster.count(), 1);
+        check.sentence("All pixels are 0", Promise01NewObjectTest::allZero);
+        check.sentence("the pen is 0.", Promise01NewObjectTest::penZero);
+        check.sentence("RasterRules(): of each object for itself", Promise01NewObjectTest::eachForItself);
         check.end();
+    }
+
+    private static void allZero(Check check) {
+        for (int pixel : Check.pixels()) {
+            check.due("get(" + pixel + ")", new RasterRules().get(pixel), 0);
+        }
+        check.due("count()", new RasterRules().count(), 0);
+        check.rows("new", new RasterRules(), new int[24]);
+    }
+
+    private static void penZero(Check check) {
+        RasterRules raster = new RasterRules();
+        check.due("makes 0 to 1", raster.line(0, 3), 4);
+        check.picture("makes 0 to 1", raster, "####");
+        check.due("leaves 1 as it is", raster.line(0, 3), 0);
+        check.picture("leaves 1 as it is", raster, "####");
+        RasterRules refused = new RasterRules();
+        refused.pen(3);
+        check.due("with a refused pen, too", refused.disc(0, 0) + refused.disc(0, 0), 1);
+    }
+
+    private static void eachForItself(Check check) {
+        RasterRules first = new RasterRules();
+        first.disc(0, 0);
+        first.pen(2);
+        RasterRules second = new RasterRules();
+        check.due("no pixels of another object", second.count(), 0);
+        check.due("no pen of another object", second.disc(5, 0) + second.disc(5, 0), 1);
+        check.due("the first has its pen still", first.disc(0, 0), 1);
+        check.due("the first has its pixels still", first.count(), 0);
     }
 }

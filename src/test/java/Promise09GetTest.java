@@ -2,31 +2,44 @@
 public final class Promise09GetTest {
     public static void main(String[] args) {
         Check check = new Check("Promise09");
-        for (int y = 0; y < 24; y++) {
-            for (int x = 0; x < 24; x++) {
-                onePixel(check, Check.at(x, y));
-            }
-        }
-        RasterRules raster = new RasterRules();
-        raster.blot(0, 0, 0);
-        for (int number = -2000; number < 3000; number++) {
-            boolean pixel = number >= 0 && number % 32 < 24 && number / 32 < 24;
-            check.due("get(" + number + ")", raster.get(number), pixel ? 1 : RasterRules.BAD);
-        }
-        for (int bad : Check.noPixels()) {
-            check.due("get(" + bad + ")", raster.get(bad), RasterRules.BAD);
-        }
-        check.due("get changes nothing", raster.count(), 576);
+        check.sentence("A pixel's value", Promise09GetTest::value);
+        check.sentence("BAD if pixel is no pixel's number", Promise09GetTest::bad);
         check.end();
     }
 
-    private static void onePixel(Check check, int pixel) {
-        RasterRules raster = new RasterRules();
-        raster.disc(pixel, 0);
-        for (int other = 0; other < 760; other++) {
-            if (other % 32 < 24) {
-                check.due("get(" + other + ") with " + pixel, raster.get(other), other == pixel ? 1 : 0);
+    private static void value(Check check) {
+        for (int pixel : Check.pixels()) {
+            for (int y = 0; y < 24; y++) {
+                onePixel(check, pixel, y);
             }
+        }
+        for (int pixel : Check.pixels()) {
+            RasterRules raster = Check.mixed();
+            int[] rows = Check.rowsOf(raster);
+            check.due("get(" + pixel + ")", raster.get(pixel), rows[pixel / 32] >> pixel % 32 & 1);
+            check.rows("get changes nothing", raster, rows);
+        }
+    }
+
+    /** New objects for each row that is looked at: 576 looks are more calls than an object is used for. */
+    private static void onePixel(Check check, int pixel, int y) {
+        RasterRules one = new RasterRules();
+        one.disc(pixel, 0);
+        RasterRules zero = Check.full();
+        zero.pen(1);
+        zero.disc(pixel, 0);
+        for (int x = 0; x < 24; x++) {
+            int other = Check.at(x, y);
+            check.due("get(" + other + ") with 1 at " + pixel, one.get(other), other == pixel ? 1 : 0);
+            check.due("get(" + other + ") with 0 at " + pixel, zero.get(other), other == pixel ? 0 : 1);
+        }
+    }
+
+    private static void bad(Check check) {
+        for (int bad : Check.noPixels()) {
+            check.due("get(" + bad + ") of an empty raster", new RasterRules().get(bad), RasterRules.BAD);
+            check.due("get(" + bad + ") of a full raster", Check.full().get(bad), RasterRules.BAD);
+            check.refused("get(" + bad + ")", RasterRules.BAD, raster -> raster.get(bad));
         }
     }
 }
