@@ -64,6 +64,9 @@ public final class FaceTest {
             boolean bad = field.getName().equals("BAD");
             check.due("type of " + field.getName(), TYPES.contains(field.getType()), true);
             check.due("private " + field.getName(), Modifier.isPrivate(modifiers), !bad);
+            if (bad) {
+                check.due("public static final BAD", modifiers, Modifier.PUBLIC | Modifier.STATIC | Modifier.FINAL);
+            }
             if (Modifier.isStatic(modifiers)) {
                 check.due("constant " + field.getName(), Modifier.isFinal(modifiers), true);
                 check.due("number " + field.getName(), field.getType() == int.class || field.getType() == long.class, true);
