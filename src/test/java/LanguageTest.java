@@ -13,7 +13,8 @@ import javax.tools.ToolProvider;
 
 /**
  * The rules of LANGUAGE.md that can be seen in the source's tree. Rule 7 (nothing throws) and whether each loop's
- * bound is the right one (rule 8) can't; the other tests call with every kind of argument for these.
+ * bound is the right one (rule 8) can't; the other tests call with every kind of argument for these. At some places
+ * it asks for more than the rules do, where the class has no need of what they leave: so the tests stay plain.
  */
 public final class LanguageTest {
     private static final Path SOURCE = Path.of("src/main/java/RasterRules.java");
@@ -59,7 +60,7 @@ public final class LanguageTest {
         for (Tree member : type.getMembers()) {
             check.due("member " + member, member instanceof MethodTree || member instanceof VariableTree, true);
         }
-        // More than the rule asks (no private one with a public one's name): so a name tells which method is called.
+        // So a name alone tells which method is called.
         Set<String> names = new HashSet<>();
         for (MethodTree method : methods(type)) {
             check.due("one method of the name " + method.getName(), names.add(method.getName().toString()), true);
@@ -89,7 +90,7 @@ public final class LanguageTest {
         return type instanceof ArrayTypeTree && isNumber(((ArrayTypeTree) type).getType());
     }
 
-    /** More than the rules ask: no dot at all stands in the code, so nothing of another class is named. */
+    /** No dot at all stands in the code, so nothing of another class is named. */
     private static void never(Check check, ClassTree type) {
         for (Tree tree : all(type, Tree.class)) {
             check.due(tree.getKind() + " " + tree, NEVER.contains(tree.getKind()), false);
